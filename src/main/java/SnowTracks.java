@@ -636,8 +636,12 @@ public final class SnowTracks {
 
     private void lookAtCrossing(int a, int b, int cell) {
         int lead = leadToLieAbove(a, b, cell);
-        if (verdict(a, b, lead) == NONE) {
-            int above = net.spanWith(pointOf(a), pointOf(b), lead);
+        if (verdict(a, b, lead) != NONE) {
+            return;
+        }
+        int above = net.spanWith(pointOf(a), pointOf(b), lead);
+        // one SPAN that is too great already spares the other
+        if (glance.isBetter(above)) {
             int below = net.spanWith(pointOf(b), pointOf(a), leadToLieAbove(b, a, cell));
             glance.offer(a, b, cell, Math.max(above, below));
         }
@@ -1066,11 +1070,18 @@ public final class SnowTracks {
             if (!fits(over, under, gap)) {
                 return 0;
             }
+            int fromDawn = least(DAWN, under) + gap;
+            int toDawn = gap + least(over, DAWN);
+            int overRow = over * POINTS;
             int sum = 0;
             for (int point = 1; point < points; point++) {
-                int first = least(DAWN, under) + gap + least(over, point);
-                int end = least(point, under) + gap + least(over, DAWN);
-                sum -= Math.max(first, least(DAWN, point)) + Math.max(end, least(point, DAWN));
+                int row = point * POINTS;
+                int first = fromDawn + gaps[overRow + point];
+                int known = gaps[DAWN * POINTS + point];
+                sum -= first > known ? first : known;
+                int end = gaps[row + under] + toDawn;
+                known = gaps[row + DAWN];
+                sum -= end > known ? end : known;
             }
             return sum;
         }
@@ -1251,8 +1262,12 @@ public final class SnowTracks {
             widest = NONE;
         }
 
+        boolean isBetter(int span) {
+            return widest == NONE || span < widest;
+        }
+
         void offer(int first, int second, int place, int greater) {
-            if (widest == NONE || greater < widest) {
+            if (isBetter(greater)) {
                 a = first;
                 b = second;
                 cell = place;

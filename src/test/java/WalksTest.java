@@ -196,6 +196,8 @@ final class WalksTest {
         path("@0,0 (2(e)b)s", "00 10 20 10 11", 5);
         path("@0,0 2(2(2(e)))", "00 10 20 30 30 30 30 30 30", 4);
         path("@1,1 3 z 2 b e", "11 11 11 11 11 11 21", 2);
+        path("@0,0 2(z)(s)2((2(e))b)", "00 00 00 01 11 21 11 21 31 21", 8);
+        path("@0,0 (((e)))(((s)))((2(e)))", "00 10 11 21 31", 5);
         sixtyMoments();
     }
 
@@ -249,6 +251,19 @@ final class WalksTest {
         Due.is("prints beside a small yard", small.prints(2, 2), SnowTracks.NONE);
         Due.is("prints below a small yard", small.prints(1, 3), SnowTracks.NONE);
         standingLeavesNoPrint();
+        eachWalkGoesBackAlone();
+    }
+
+    private static void eachWalkGoesBackAlone() {
+        SnowTracks yard = new SnowTracks(4, 4, 100);
+        Due.walk(yard, "@0,0 3e 2(s", 1, 0);
+        Due.walk(yard, "@0,0 3e 2(2s)", 1, 0);
+        Due.walk(yard, "@1,1 b s 2b", 1, 0);
+        int[] due = {17, 17, 33, 17, 17};
+        for (int i = 0; i < due.length; i++) {
+            Due.is("a WALK goes back over its own STEPS, " + i, yard.where(1, i), due[i]);
+        }
+        Due.is("its first WALK", yard.told(0, 0), 7);
     }
 
     private static void standingLeavesNoPrint() {
