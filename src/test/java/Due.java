@@ -2,6 +2,9 @@
 final class Due {
     private static int wrong = 0;
     private static int asked = 0;
+    /** The document's sentence that is being tested, and how many answers were asked before it. */
+    private static String sentence = "";
+    private static int askedBefore = 0;
 
     private Due() {
     }
@@ -11,13 +14,28 @@ final class Due {
         if (got != want) {
             wrong++;
             if (wrong <= 40) {
-                System.out.println(call + " answered " + got + ", due is " + want);
+                String told = sentence.isEmpty() ? "" : " (\"" + sentence + "\")";
+                System.out.println(call + " answered " + got + ", due is " + want + told);
             }
         }
     }
 
     static void is(String call, boolean got, boolean want) {
         is(call, got ? 1 : 0, want ? 1 : 0);
+    }
+
+    /** What follows, until the next sentence, tests these words of the document. */
+    static void says(String words) {
+        closeSentence();
+        sentence = words;
+        askedBefore = asked;
+    }
+
+    private static void closeSentence() {
+        if (!sentence.isEmpty() && asked == askedBefore) {
+            wrong++;
+            System.out.println("nothing was asked of \"" + sentence + "\"");
+        }
     }
 
     static void noSuch(SnowTracks yard, int walk, int what) {
@@ -32,6 +50,7 @@ final class Due {
 
     /** Ends the test: exit code 1 if an answer was not the one that is due. */
     static void end(String test) {
+        closeSentence();
         System.out.println(test + ": " + asked + " answers, " + wrong + " not as due");
         if (wrong != 0 || asked == 0) {
             System.exit(1);
