@@ -989,7 +989,7 @@ public final class SnowTracks {
         private int points = 1;
 
         void clear(int walks, int day) {
-            points = walks + 1;
+            points = Math.min(walks + 1, POINTS);
             for (int from = 0; from < points; from++) {
                 for (int to = 0; to < points; to++) {
                     gaps[from * POINTS + to] = from == to || from == DAWN ? 0 : -day;
@@ -1002,8 +1002,12 @@ public final class SnowTracks {
             System.arraycopy(other.gaps, 0, gaps, 0, gaps.length);
         }
 
+        boolean isPoint(int point) {
+            return point >= 0 && point < points;
+        }
+
         int least(int from, int to) {
-            return gaps[from * POINTS + to];
+            return isPoint(from) && isPoint(to) ? gaps[from * POINTS + to] : -FAR;
         }
 
         boolean takes(Fact fact) {
@@ -1012,7 +1016,7 @@ public final class SnowTracks {
         }
 
         boolean fits(int over, int under, int gap) {
-            return least(over, under) + gap <= 0;
+            return isPoint(over) && isPoint(under) && least(over, under) + gap <= 0;
         }
 
         boolean takesGap(int over, int under, int gap) {
@@ -1115,7 +1119,7 @@ public final class SnowTracks {
         }
 
         private void goOver(Net free, int over, int under, int gap) {
-            if (gap <= -FAR) {
+            if (gap <= -FAR || !free.isPoint(over) || !free.isPoint(under)) {
                 return;
             }
             for (int from = 0; from < free.points; from++) {

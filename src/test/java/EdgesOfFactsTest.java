@@ -246,7 +246,8 @@ final class EdgesOfFactsTest {
                 new int[] {0, 3, walk, 9, 1, 2}, new int[] {0, 4, walk, 1, 1, 0},
                 new int[] {0, 4, 0, walk, 1, 0}, new int[] {0, 0, walk, walk, 1, 0});
         }
-        int[][] cells = {{-1, 0}, {1, -1}, {3, 0}, {1, 2}, {17, -1}, {-15, 1}, {LOW, 0}, {HIGH, 0}, {1, LOW}, {1, HIGH}};
+        int[][] cells = {{-1, 0}, {1, -1}, {3, 0}, {1, 2}, {17, -1}, {-15, 1}, {LOW, 0}, {HIGH, 0},
+            {1, LOW}, {1, HIGH}};
         for (int[] cell : cells) {
             refused(yard, new int[] {0, 0, 0, 1, cell[0], cell[1]}, new int[] {0, 1, 0, 9, cell[0], cell[1]},
                 new int[] {0, 2, 0, 9, cell[0], cell[1]});

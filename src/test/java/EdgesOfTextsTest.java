@@ -252,6 +252,12 @@ final class EdgesOfTextsTest {
         Due.is("three within one another", yard.told(0, 0), 14);
         Due.is("back to one", yard.told(1, 0), 11);
         Due.is("back to one", yard.where(1, 11), 70);
+        Due.walk(yard, "@0,0 2(e)2(s)2(e)2(s)2(e)2((s))", 1, 0);
+        Due.is("one behind the other are not within", yard.told(2, 0), 12);
+        Due.is("one behind the other are not within", yard.where(2, 12), 102);
+        Due.walk(yard, "@0,0 (e)2(2(2(s)))e", 1, 0);
+        Due.is("one, then three within one another", yard.told(3, 0), 10);
+        Due.is("one, then three within one another", yard.where(3, 9), 129);
     }
 
     /** Each beginning of a WALK is a WALK itself, or ends too early. */

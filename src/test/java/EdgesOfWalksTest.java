@@ -174,13 +174,13 @@ final class EdgesOfWalksTest {
 
     private static void standsWithoutSuch() {
         Due.says("or stands without such");
-        SnowTracks yard = yardWith(4, 4, "@0,0 b", "@1,1 2bn3b", "@0,0 n2b", "@2,2 9b");
+        SnowTracks yard = yardWith(4, 4, "@0,0 b", "@1,1 2bn3b", "@0,0 n2b", "@0,0 3s", "@2,2 9b");
         path(yard, 0, 0, 0);
         path(yard, 1, 17, 17, 17, 1, 17, 17, 17);
         path(yard, 2, 0, 0, 0, 0);
         Due.is("PRINTS of one that stood", yard.told(0, 3), 1);
         Due.is("PRINTS of one that came back", yard.told(1, 3), 3);
-        Due.is("another WALK's STEPS are not gone back over", yard.where(3, 9), 34);
+        Due.is("another WALK's STEPS are not gone back over", yard.where(4, 9), 34);
     }
 
     private static void printAtMoment0() {
@@ -293,8 +293,8 @@ final class EdgesOfWalksTest {
         SnowTracks yard = yardWith(3, 2, "@0,0 e", "@1,0 z", "@0,0 z", "@1,0 w", "@2,1 z", "@1,0 z",
             "@1,0 e", "@0,0 e");
         int[][] due = {{0, 0, 1 + 4 + 8 + 128}, {1, 0, 1 + 2 + 8 + 32 + 64 + 128}, {2, 0, 64}, {0, 1, 0},
-            {1, 1, 0}, {2, 1, 16}, {3, 0, NONE}, {0, 2, NONE}, {-1, 0, NONE}, {0, -1, NONE}, {3, 1, NONE},
-            {16, 0, NONE}, {17, -1, NONE}, {LOW, 0, NONE}, {HIGH, 0, NONE}, {0, LOW, NONE}, {0, HIGH, NONE}};
+            {1, 1, 0}, {2, 1, 16}, {3, 0, NONE}, {0, 2, NONE}, {-1, 0, NONE}, {-1, 1, NONE}, {0, -1, NONE},
+            {3, 1, NONE}, {16, 0, NONE}, {17, -1, NONE}, {LOW, 0, NONE}, {HIGH, 0, NONE}, {0, LOW, NONE}, {0, HIGH, NONE}};
         for (int[] d : due) {
             Due.is("prints(" + d[0] + ", " + d[1] + ")", yard.prints(d[0], d[1]), d[2]);
         }
