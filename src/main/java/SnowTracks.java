@@ -1016,7 +1016,7 @@ public final class SnowTracks {
         }
 
         boolean fits(int over, int under, int gap) {
-            return isPoint(over) && isPoint(under) && least(over, under) + gap <= 0;
+            return isPoint(over) && isPoint(under) && gaps[over * POINTS + under] + gap <= 0;
         }
 
         boolean takesGap(int over, int under, int gap) {
